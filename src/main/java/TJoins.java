@@ -18,7 +18,7 @@ public final class TJoins {
     private int roadCount = 0;
     private int wanted = 0;
 
-    /** The set of places that the road is an end at: one place alone if it joins a place to itself. */
+    /** The set of places where the road has an end: one place alone if it joins a place to itself. */
     private final int[] touched = new int[MOST_ROADS];
     /** The set of places where the road has an odd number of ends: empty if it joins a place to itself. */
     private final int[] odd = new int[MOST_ROADS];

@@ -135,6 +135,13 @@ public final class PromisesTest {
         due("remove the only one", x.remove(0), 0);
         due("remove of none", x.remove(0), -1);
         due("numbers begin anew", x.road(0, 1, 1), 0);
+        TJoins parts = new TJoins(5);
+        parts.road(0, 1, 1);
+        parts.road(2, 3, 1);
+        parts.road(3, 4, 1);
+        due("two parts", parts.postman(), -2);
+        parts.remove(0);
+        due("the part that is left", parts.postman(), 2);
         TJoins full = fullOfRoads();
         due("remove from 12", full.remove(0), 11);
         due("the last of 12 moved", full.weigh(10, 0), 11);
