@@ -1,7 +1,7 @@
 /**
  * Sets of roads that leave just the wanted places with an odd number of road ends, at least weight.
  *
- * With at most 12 roads there are at most 4096 sets of them, so every question looks at all sets.
+ * With at most 12 roads there are at most 4096 sets of them, so to find joins all sets are looked at.
  */
 public final class TJoins {
     private static final int LEAST_PLACES = 2;
